@@ -2,7 +2,7 @@
 public final class PinDuties {
     public static final int BAD = -1, FULL = -2, FINDING = -3, STATE = -4, SPENT = -6, NONE = -9;
 
-    private static final int NOTHING = 1, BEYOND = 2, UNLIKE = 3, NOUGHT = 4, SIZE = 5;
+    private static final int NOTHING = 1, BEYOND = 2, UNLIKE = 3, NOUGHT = 4, SIZE = 5, FOUND = 6;
     private static final int ROWS = 6, TEXTS = 4, KEPT = 3;
     private static final int ROW_MOST = 40, TEXT_MOST = 60, PINS_MOST = 8, DEEDS_MOST = 40;
     private static final int SETS = 1 << PINS_MOST, LAST_PLACE = 9, LUCKS = 10, HOURS = 13, COUNTS = 11;
@@ -17,7 +17,7 @@ public final class PinDuties {
     private final Cells[] texts = new Cells[TEXTS];
     private final Deeds[] kept = new Deeds[KEPT];
     private final Street street = new Street();
-    private final int[] found = new int[SIZE + 1];
+    private final int[] found = new int[FOUND];
     private int latest = 0;
     private int told = 0;
     private long above = 0;
