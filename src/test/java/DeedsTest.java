@@ -6,9 +6,11 @@ public final class DeedsTest {
         drop();
         sweep();
         full();
+        fortieth();
         undo();
         undoEach();
         keep();
+        keepByOtherDeeds();
         keepRefused();
         Check.end();
     }
@@ -133,6 +135,27 @@ public final class DeedsTest {
             z.drop(0);
         }
         Check.due("pick(0), that lies here", z.pick(0), PinDuties.FULL);
+        z.undo(39);
+        Check.due("drop(0), the fortieth", z.drop(0), 0);
+    }
+
+    // Each kind of deed can be the fortieth.
+    private static void fortieth() {
+        PinDuties x = Check.street("p0011p0022");
+        for (int i = 0; i < 39; i++) {
+            Check.due("step() " + i, x.step(i % 2 == 0 ? 1 : -1), 1 - i % 2);
+        }
+        x.step(-1);
+        x.undo(38);
+        x.pick(1);
+        Check.due("pick(0), the fortieth", x.pick(0), 2);
+        x.undo(39);
+        Check.due("drop(1), the fortieth", x.drop(1), 0);
+        x.undo(39);
+        Check.due("sweep(), the fortieth", x.sweep(), 1);
+        x.undo(39);
+        Check.due("lots(1, 9), the fortieth", x.lots(1, 9) < 0 ? 1 : 0, 0);
+        Check.due("count(2)", x.count(2), 40);
     }
 
     // Promise 19
@@ -204,6 +227,37 @@ public final class DeedsTest {
         Check.due("on(1)", x.on(1), 1);
         Check.due("count(5)", x.count(5), 3);
         Check.due("count(8)", x.count(8), 2);
+    }
+
+    // The deeds kept are those done before, not those done in their stead later.
+    private static void keepByOtherDeeds() {
+        PinDuties x = Check.street("p0011p0022p1033");
+        x.pick(1);
+        x.step(1);
+        x.pick(2);
+        long state = x.digest();
+        x.keep(0);
+        x.undo(0);
+        x.sweep();
+        x.sweep();
+        x.step(1);
+        x.drop(1);
+        Check.due("on(0)", x.on(0), 3);
+        x.keep(0);
+        Check.due("undo(1)", x.undo(1), 2);
+        Check.due("count(3): what was done first", x.count(3), 2);
+        Check.due("count(5): none swept", x.count(5), 0);
+        x.on(0);
+        Check.due("count(3)", x.count(3), 6);
+        Check.due("count(1)", x.count(1), 1);
+        x.undo(3);
+        PinDuties y = Check.street("p0011p0022p1033");
+        y.pick(1);
+        y.step(1);
+        y.pick(2);
+        Check.due("digest(), but for what is kept", y.digest(), state);
+        y.keep(0);
+        Check.due("digest()", x.digest(), y.digest());
     }
 
     private static void keepRefused() {

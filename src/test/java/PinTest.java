@@ -92,6 +92,7 @@ public final class PinTest {
         PinDuties x = Check.street("p0138c0214");
         Check.due("mark(0, 0)", x.mark(0, 0), PinDuties.BAD);
         Check.due("mark(0, 6)", x.mark(0, 6), PinDuties.BAD);
+        Check.due("mark(0, 7)", x.mark(0, 7), PinDuties.BAD);
         Check.due("mark(0, -1)", x.mark(0, -1), PinDuties.BAD);
         Check.due("mark(2, 1)", x.mark(2, 1), PinDuties.BAD);
         Check.due("mark(-1, 1)", x.mark(-1, 1), PinDuties.BAD);

@@ -94,6 +94,9 @@ public final class RowsTest {
         Check.due("tear(5)", x.tear(5), 1);
         Check.finds(x, "at(5, 0), torn", x.at(5, 0), 1);
         Check.finds(x, "tear(5), torn", x.tear(5), 1);
+        PinDuties y = new PinDuties();
+        y.row(4, 1);
+        Check.due("digest(), as if it had never been", x.digest(), y.digest());
         Check.due("count(6)", x.count(6), 1);
         x.row(5, 2);
         Check.places(x, 5, 0, 0);

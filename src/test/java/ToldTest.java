@@ -107,6 +107,7 @@ public final class ToldTest {
         Check.due("count(8)", x.count(8), 2);
         Check.due("count(6)", x.count(6), 1);
         Check.due("count(11)", x.count(11), PinDuties.BAD);
+        Check.due("count(12)", x.count(12), PinDuties.BAD);
         Check.due("count(-1)", x.count(-1), PinDuties.BAD);
     }
 

@@ -146,6 +146,8 @@ public final class WhoseTest {
         Check.both(x, "test of all kinds", x.test(0, 0), 1, 1);
         Check.fill(x, 0, 0, 0);
         Check.both(x, "test of PIN and MARE", x.test(0, 0), 1, 1);
+        Check.fill(x, 0, 1, 1);
+        Check.both(x, "test of PIN alone", x.test(0, 0), 0, 1);
         Check.fill(x, 0, 3, 6);
         Check.both(x, "test of LUNCH and MARE", x.test(0, 0), 0, 1);
         Check.fill(x, 0, 9, 24);
