@@ -1,9 +1,9 @@
 /** What the tests share: an answer held against the one that is due, and streets typed in. */
-final class Check {
+class Check {
     private static int made = 0;
     private static int wrong = 0;
 
-    private Check() {
+    Check() {
     }
 
     static void due(String call, long got, long want) {
@@ -65,6 +65,10 @@ final class Check {
             told(x, "at(" + r + ", " + i + ")", x.at(r, i), values[i]);
         }
         finds(x, "at(" + r + ", " + values.length + ")", x.at(r, values.length), 2);
+    }
+
+    static int made() {
+        return made;
     }
 
     static void end() {
