@@ -102,6 +102,8 @@ final class EdgesOfDay extends Edges {
         both(z, "busy(): an hour of three", z.busy(), 1, 1);
         PinDuties w = held(ALIKE);
         both(w, "busy(): of eight", w.busy(), 15, 15);
+        PinDuties v = held("p0011p0011p0111p0211p0211p9911p0311");
+        both(v, "busy(): an hour of two, then others", v.busy(), 15, 5);
     }
 
     // ---- 23 clashes

@@ -466,6 +466,14 @@ final class EdgesOfDeeds extends Edges {
         due("count(5)", x.count(5), 0);
         due("undo(39): the last of the deeds", x.undo(39), 1);
         due("count(1)", x.count(1), 1);
+        due("sweep(), another fortieth deed", x.sweep(), 1);
+        due("keep(2)", x.keep(2), 40);
+        due("on(1): its own fortieth deed", x.on(1), 40);
+        due("count(5)", x.count(5), 0);
+        due("count(1)", x.count(1), 0);
+        due("on(2): its own fortieth deed", x.on(2), 40);
+        due("count(5)", x.count(5), 4);
+        due("count(1)", x.count(1), 1);
     }
 
     private static void keepIsNoDeed() {

@@ -450,6 +450,12 @@ final class EdgesOfRows extends Edges {
         last[39] = 80;
         meanOf(2, last);
         aside("mean(0)", Edges::rich, x -> x.mean(0));
+        PinDuties x = new PinDuties();
+        fill(x, 0, 8, 8, 80, 80);
+        x.row(0, 2);
+        told(x, "mean(0): what was behind it does not count", x.mean(0), 0);
+        fill(x, 0, 6, 8);
+        told(x, "mean(0): what was behind it does not count", x.mean(0), 7);
     }
 
     private static void meanWithoutWrap() {

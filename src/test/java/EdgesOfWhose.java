@@ -291,9 +291,17 @@ final class EdgesOfWhose extends Edges {
         for (int n : new int[] {1, 3, 13, 39}) {
             size("by a row of " + n, () -> richWith(new int[n]), x -> ask(x, byTest, 0, 5));
         }
+        due("by a pair, behind which others were (1: not refused)", ask(shortened(), byTest, 0, 5) >= 0 ? 1 : 0, 1);
         for (int n : new int[] {0, 2, 4, 40}) {
             due("by a row of " + n + " (1: not refused)", ask(richWith(new int[n]), byTest, 0, 5) >= 0 ? 1 : 0, 1);
         }
+    }
+
+    // What a longer row held ahead is no part of it.
+    private static PinDuties shortened() {
+        PinDuties x = richWith(0, 0, 77, 77, 77, 77);
+        x.row(5, 2);
+        return x;
     }
 
     private static void pairsUnlike(boolean byTest) {
@@ -349,6 +357,7 @@ final class EdgesOfWhose extends Edges {
         testIs("p0127", 1, 2, 0, 0);
         testIs("p0127", 0, 2, 7, 7);
         testIs("c0127", 0, 1, 7, -3);
+        testIs("p0427", 0, 1, 3, -9);
         // Hour 1: by luck 7 worth 7 are PIN, LUNCH, MARE.
         testIs("b0117", 0, 3, 7, 7);
     }

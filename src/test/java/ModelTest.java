@@ -3,8 +3,9 @@ import java.util.Random;
 
 /** Long runs of calls drawn by a fixed seed, the class held against Model after each of them. */
 public final class ModelTest {
-    private static final int RUNS = 700;
-    private static final int CALLS = 512;
+    private static final int RUNS = 1500;
+    // What an object is used for at most, and what one turn of a run uses at most, a street typed in.
+    private static final int CALLS = 512, TURN = 75;
     private static final String[] NAMES = {"row", "lay", "at", "tear", "copy", "mean", "text", "put", "fault", "street",
         "pin", "mark", "worth", "step", "pick", "drop", "sweep", "undo", "keep", "on", "busy", "clashes", "least",
         "best", "walk", "within", "whose", "kinds", "test", "lucks", "duel", "odds", "mid", "lots", "count",
@@ -19,6 +20,8 @@ public final class ModelTest {
     // The rows filled last for kinds() and for whose(), and the pin that the first of them tells of.
     private final int[] filled = new int[2];
     private int filledFor = 0;
+    // How many calls the object has been used for: all of them count, those that look alone, too.
+    private int used = 0;
     private final StringBuilder told = new StringBuilder();
 
     private ModelTest(int run) {
@@ -32,39 +35,53 @@ public final class ModelTest {
         Check.end();
     }
 
-    // Each call counts, those that type a street, too: an object is used for 512.
+    // Every ninth run starts without a street.
     private void go(int run) {
-        // Every ninth run starts without a street.
-        int calls = run % 9 == 0 ? 0 : typeStreet();
-        while (calls < CALLS) {
-            int call = draw();
+        if (run % 9 != 0) {
+            typeStreet();
+        }
+        for (int turn = 1; used + TURN <= CALLS; turn++) {
             if (random.nextInt(120) == 0) {
-                calls += typeStreet();
+                typeStreet();
             } else if (random.nextInt(25) == 0) {
-                calls += fillRow();
+                fillRow();
             } else {
-                calls += 1;
+                int call = draw();
                 int[] a = arguments(call);
-                same(run, calls, NAMES[call], a, ask(call, a), model(call, a));
+                same(run, turn, call, a);
             }
-            if (calls % 4 == 0) {
-                same(run, calls, "digest", new int[0], x.digest(), y.digest());
+            if (turn % 6 == 0) {
+                due("run " + run + ", turn " + turn + ": digest()", x.digest(), y.digest());
             }
+        }
+        due("run " + run + ", at its end: digest()", x.digest(), y.digest());
+        for (int f = 1; f <= 5; f++) {
+            due("run " + run + ", at its end: findings(" + f + ")", x.findings(f), y.findings(f));
         }
     }
 
-    private void same(int run, int calls, String name, int[] a, long got, long want) {
+    private void due(String call, long got, long want) {
+        used++;
+        Check.due(call, got, want);
+    }
+
+    private void same(int run, int turn, int call, int[] a) {
         told.setLength(0);
-        told.append("run ").append(run).append(", call ").append(calls).append(": ").append(name).append('(');
+        told.append("run ").append(run).append(", turn ").append(turn).append(": ").append(NAMES[call]).append('(');
         for (int i = 0; i < a.length; i++) {
             told.append(i == 0 ? "" : ", ").append(a[i]);
         }
         told.append(')');
-        Check.due(told.toString(), got, want);
-        Check.due(told + ", then asked()", x.asked(), y.asked());
-        Check.due(told + ", then upper()", x.upper(), y.upper());
-        Check.due(told + ", then lower()", x.lower(), y.lower());
-        Check.due(told + ", then finding()", x.finding(), y.finding());
+        long got = ask(call, a);
+        due(told.toString(), got, model(call, a));
+        due(told + ", then asked()", x.asked(), y.asked());
+        if (NAMES[call].equals("odds") || NAMES[call].equals("mid") || turn % 20 == 0) {
+            due(told + ", then upper()", x.upper(), y.upper());
+            due(told + ", then lower()", x.lower(), y.lower());
+        }
+        if (got == PinDuties.FINDING || turn % 20 == 0) {
+            due(told + ", then finding()", x.finding(), y.finding());
+        }
     }
 
     private int draw() {
@@ -101,13 +118,13 @@ public final class ModelTest {
     }
 
     private int somePin() {
-        return near(0, Math.max(0, x.count(0) - 1));
+        return near(0, Math.max(0, y.count(0) - 1));
     }
 
     /** A pin that a set told by count(what) holds, if there is one. */
     private int pinOf(int what) {
         int k = somePin();
-        for (int i = 0; i < 12 && k >= 0 && k < 8 && (x.count(what) >> k & 1) == 0; i++) {
+        for (int i = 0; i < 12 && k >= 0 && k < 8 && (y.count(what) >> k & 1) == 0; i++) {
             k = somePin();
         }
         return k;
@@ -116,7 +133,7 @@ public final class ModelTest {
     // Mostly one that lies here, so that many are held.
     private int pinToPick() {
         int k = pinOf(4);
-        for (int i = 0; i < 6 && k >= 0 && k < y.pins.size() && y.where(k) != x.count(1); i++) {
+        for (int i = 0; i < 6 && k >= 0 && k < y.pins.size() && y.where(k) != y.count(1); i++) {
             k = pinOf(4);
         }
         return k;
@@ -128,8 +145,8 @@ public final class ModelTest {
     }
 
     private int someSet() {
-        int bits = x.count(4);
-        return random.nextInt(4) == 0 ? near(0, (1 << x.count(0)) - 1) : bits & random.nextInt(256);
+        int bits = y.count(4);
+        return random.nextInt(4) == 0 ? near(0, (1 << y.count(0)) - 1) : bits & random.nextInt(256);
     }
 
     private int[] arguments(int call) {
@@ -149,7 +166,7 @@ public final class ModelTest {
             case "step": return new int[] {random.nextInt(9) == 0 ? near(-1, 1) : random.nextInt(3) == 0 ? -1 : 1};
             case "pick": return new int[] {pinToPick()};
             case "drop": return new int[] {pinOf(3)};
-            case "undo": return new int[] {near(0, x.count(2))};
+            case "undo": return new int[] {near(0, y.count(2))};
             case "keep": case "on": return new int[] {near(0, 2)};
             case "walk": return new int[] {someSet()};
             case "within": return new int[] {near(0, 20)};
@@ -188,28 +205,26 @@ public final class ModelTest {
         return signs.toString();
     }
 
-    private int typeStreet() {
+    private void typeStreet() {
         String signs = signs();
         int t = random.nextInt(4);
-        Check.due("text", x.text(t, signs.length()), y.text(t, signs.length()));
+        due("text", x.text(t, signs.length()), y.text(t, signs.length()));
         for (int i = 0; i < signs.length(); i++) {
-            Check.due("put", x.put(t, i, signs.charAt(i)), y.put(t, i, signs.charAt(i)));
+            due("put", x.put(t, i, signs.charAt(i)), y.put(t, i, signs.charAt(i)));
         }
-        Check.due("fault of " + signs, x.fault(t), y.fault(t));
-        Check.due("street of " + signs, x.street(t), y.street(t));
-        return signs.length() + 3;
+        due("fault of " + signs, x.fault(t), y.fault(t));
+        due("street of " + signs, x.street(t), y.street(t));
     }
 
     // A row that whose(), kinds() or test() can read.
-    private int fillRow() {
+    private void fillRow() {
         int of = random.nextInt(2);
         filled[of] = random.nextInt(6);
         int[] values = of == 1 ? hours() : pairs();
-        Check.due("row", x.row(filled[of], values.length), y.row(filled[of], values.length));
+        due("row", x.row(filled[of], values.length), y.row(filled[of], values.length));
         for (int i = 0; i < values.length; i++) {
-            Check.due("lay", x.lay(filled[of], i, values[i]), y.lay(filled[of], i, values[i]));
+            due("lay", x.lay(filled[of], i, values[i]), y.lay(filled[of], i, values[i]));
         }
-        return values.length + 1;
     }
 
     // The hours of some set of pins, some of them not told, seldom one of them wrong.
