@@ -24,7 +24,8 @@ final class EdgesOfChances extends Edges {
     private static void lots() {
         promise(35);
         sentence("n (1 .. 20) DEEDS truly by LOTS of a seed:", EdgesOfChances::lotsAreDeeds);
-        sentence("a number comes from the one ahead by 48271 times it modulo 2147483647,", EdgesOfChances::lotsOneByOne);
+        sentence("a number comes from the one ahead by 48271 times it modulo 2147483647,",
+            EdgesOfChances::lotsOneByOne);
         sentence("the first from the seed (1 .. 2147483646):", EdgesOfChances::lotsOfLeastAndGreatestSeed);
         sentence("the PIN that it by 8, cut, modulo how many there are", EdgesOfChances::lotsPinOfAll);
         sentence("is dropped, if it is HELD;", EdgesOfChances::lotsDrop);

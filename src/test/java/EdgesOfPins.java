@@ -36,7 +36,8 @@ final class EdgesOfPins extends Edges {
     /** Kinds and worth, which are told in the Terms. */
     static void terms() {
         sentence("KINDS of PINS and letters: 0 PIN (p, 112), 1 COLD (c, 99; a PIN), 2 LUNCH (l, 108; a PIN), "
-            + "3 MARE (m, 109; a PIN), 4 BRIDE (b, 98; a LUNCH), 5 WRIT (w, 119; a COLD).", EdgesOfPins::kindsByLetters);
+            + "3 MARE (m, 109; a PIN), 4 BRIDE (b, 98; a LUNCH), 5 WRIT (w, 119; a COLD).",
+            EdgesOfPins::kindsByLetters);
         sentence("1 COLD (c, 99; a PIN), 2 LUNCH (l, 108; a PIN), 3 MARE (m, 109; a PIN), 4 BRIDE (b, 98; a LUNCH), "
             + "5 WRIT (w, 119; a COLD).", EdgesOfPins::markUnlike);
         sentence("A PIN is WORTH its LUCK;", () -> worths(PIN));
